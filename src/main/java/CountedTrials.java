@@ -660,9 +660,8 @@ public final class CountedTrials {
             }
         }
 
+        /** Without pilgrims, months and a log, for roads that are to be laid. */
         void startAnew() {
-            need = 0;
-            roadCount = 0;
             pilgrimCount = 0;
             months = 0;
             logSize = 0;
@@ -842,7 +841,6 @@ public final class CountedTrials {
         private void takeRoads(World world, Pilgrim pilgrim, int without) {
             roadCount = 0;
             sets = 1;
-            gain[0] = 0;
             for (int i = 0; i < world.roadCount; i++) {
                 Road road = world.roads[i];
                 if (i != without) {

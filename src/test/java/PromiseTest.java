@@ -149,6 +149,7 @@ public final class PromiseTest {
         faultAt(x, "61", 1);
         faultAt(x, "6x", 1);
         faultAt(x, "1:", 1);
+        faultAt(x, "0:", 1);
         faultAt(x, "01;", 2);
         faultAt(x, "01::", 3);
         faultAt(x, "01:,", 3);
@@ -161,6 +162,7 @@ public final class PromiseTest {
         faultAt(x, "01:06", 4);
         faultAt(x, "01:010", 5);
         faultAt(x, "01:01,", 5);
+        faultAt(x, "01:01:", 5);
         faultAt(x, "01:0111", 6);
         faultAt(x, "01:011;", 6);
         faultAt(x, "01:011,,", 7);
@@ -679,6 +681,9 @@ public final class PromiseTest {
         CountedTrials z = read("10:121");
         z.log(NONE);
         due("walks() from where there is no road", z.walks(), 0);
+        page(z, "10:011,011");
+        z.roads();
+        due("walks() of other roads", z.walks(), 1);
         CountedTrials hurt = readWith("10:019", 1);
         repeat(11, "walk(0, 0)", () -> hurt.walk(0, 0) < 2 ? 0 : 1, 0);
         hurt.log(1);
@@ -824,6 +829,14 @@ public final class PromiseTest {
         due("count(4)", x.count(4), 3);
         due("restore()", x.restore(), 1);
         due("digest() as it was", x.digest(), then);
+        x.forget();
+        x.log(5);
+        due("walks() of another log", x.walks(), 1);
+        x.log(5);
+        due("walks() that can't be", x.walks(), 0);
+        due("restore()", x.restore(), 1);
+        due("walks() of the log as it was", x.walks(), 1);
+        due("last() of the log as it was", x.last(), 1);
         due("count(2)", x.count(2), 1);
         due("about(0, 3)", x.about(0, 3), 0);
         due("about(1, 0)", x.about(1, 0), UNKNOWN);
