@@ -1,12 +1,7 @@
 import java.util.function.IntSupplier;
 
 /** Each promise by hand: ordinary calls, the edges that the document names, refusals and their order. */
-public final class PromiseTest {
-    private static final int NONE = -1, UNKNOWN = -101, OUTSIDE = -102, STATE = -103, FULL = -104;
-    private static final int LOW = Integer.MIN_VALUE, HIGH = Integer.MAX_VALUE;
-    private static int wrong = 0;
-    private static String promise = "";
-
+public final class PromiseTest extends Checks {
     public static void main(String[] args) {
         constants();
         newObject();
@@ -38,43 +33,12 @@ public final class PromiseTest {
         count();
         digest();
         refusalsChangeNothing();
-        System.out.println(wrong == 0 ? "all promises hold" : wrong + " answers are not as due");
-        if (wrong != 0) {
-            System.exit(1);
-        }
-    }
-
-    private static void due(String call, long got, long want) {
-        if (got != want) {
-            wrong++;
-            System.out.println(promise + ": " + call + " answered " + got + ", due is " + want);
-        }
-    }
-
-    private static CountedTrials page(CountedTrials x, String text) {
-        for (int i = 0; i < text.length(); i++) {
-            due("letter of " + text, x.letter(text.charAt(i)), i + 1);
-        }
-        return x;
+        end();
     }
 
     private static CountedTrials blankPage(CountedTrials x, String text) {
         x.blank();
-        return page(x, text);
-    }
-
-    private static CountedTrials read(String text) {
-        CountedTrials x = page(new CountedTrials(), text);
-        due("roads of " + text, x.roads(), text.length() - text.replace(",", "").length() + 1);
-        return x;
-    }
-
-    private static CountedTrials readWith(String text, int pilgrims) {
-        CountedTrials x = read(text);
-        for (int i = 0; i < pilgrims; i++) {
-            due("pilgrim()", x.pilgrim(), i);
-        }
-        return x;
+        return write(x, text);
     }
 
     private static void repeat(int times, String call, IntSupplier answer, int want) {
@@ -84,7 +48,7 @@ public final class PromiseTest {
     }
 
     private static void constants() {
-        promise = "constants";
+        sentence("constants");
         due("NONE", CountedTrials.NONE, NONE);
         due("UNKNOWN", CountedTrials.UNKNOWN, UNKNOWN);
         due("OUTSIDE", CountedTrials.OUTSIDE, OUTSIDE);
@@ -93,7 +57,7 @@ public final class PromiseTest {
     }
 
     private static void newObject() {
-        promise = "1";
+        sentence("1");
         CountedTrials x = new CountedTrials();
         for (int what = 0; what <= 8; what++) {
             due("count(" + what + ")", x.count(what), 0);
@@ -105,7 +69,7 @@ public final class PromiseTest {
     }
 
     private static void letter() {
-        promise = "2";
+        sentence("2");
         CountedTrials x = new CountedTrials();
         due("letter(0)", x.letter(0), OUTSIDE);
         due("letter(127)", x.letter(127), OUTSIDE);
@@ -122,10 +86,10 @@ public final class PromiseTest {
     }
 
     private static void blank() {
-        promise = "3";
+        sentence("3");
         CountedTrials x = new CountedTrials();
         due("blank()", x.blank(), 0);
-        page(x, "abc");
+        write(x, "abc");
         due("blank()", x.blank(), 3);
         due("blank()", x.blank(), 0);
         due("count(6)", x.count(6), 0);
@@ -133,7 +97,7 @@ public final class PromiseTest {
     }
 
     private static void fault() {
-        promise = "4";
+        sentence("4");
         CountedTrials x = new CountedTrials();
         due("fault() of nothing", x.fault(), 0);
         String[] fine = {
@@ -179,7 +143,7 @@ public final class PromiseTest {
     }
 
     private static void roads() {
-        promise = "5";
+        sentence("5");
         CountedTrials x = new CountedTrials();
         due("roads() of nothing", x.roads(), STATE);
         String[] unfinished = {"0", "01", "01:", "01:f", "01:0", "01:f0", "01:01", "01:f05", "01:011,", "01:011,d", "01:011,d05"};
@@ -196,7 +160,7 @@ public final class PromiseTest {
         x.log(5);
         x.licence(3, false);
         x.worsen(0, 9);
-        page(x, "01:g051");
+        write(x, "01:g051");
         due("roads() again", x.roads(), 1);
         int[] counts = {1, 1, 0, 0, 0, 0, 0, 2, 0};
         for (int what = 0; what < counts.length; what++) {
@@ -211,7 +175,7 @@ public final class PromiseTest {
     }
 
     private static void road() {
-        promise = "6";
+        sentence("6");
         CountedTrials x = read("10:051,f412,b303,d234,g019");
         int[][] told = {{0, 0, 5, 1, 2, 1}, {1, 4, 1, 2, 0, 1}, {2, 3, 0, 3, 1, 1}, {3, 2, 3, 4, 4, 1}, {4, 0, 1, 9, 4, 1}};
         for (int road = 0; road < told.length; road++) {
@@ -227,7 +191,7 @@ public final class PromiseTest {
     }
 
     private static void as() {
-        promise = "7";
+        sentence("7");
         CountedTrials x = read("10:051,f412,b303,d234,g019");
         int[][] told = {
             {0, NONE, NONE, NONE, NONE}, {1, 1, NONE, NONE, NONE}, {2, NONE, 2, NONE, NONE},
@@ -247,7 +211,7 @@ public final class PromiseTest {
     }
 
     private static void worsen() {
-        promise = "8";
+        sentence("8");
         CountedTrials x = read("10:051,053");
         due("worsen(1, 9)", x.worsen(1, 9), 3);
         due("worsen(1, 1)", x.worsen(1, 1), 9);
@@ -261,7 +225,7 @@ public final class PromiseTest {
     }
 
     private static void licence() {
-        promise = "9";
+        sentence("9");
         CountedTrials x = read("10:051,g053,f051");
         due("licence(1, false)", x.licence(1, false), 1);
         due("road(1, 4)", x.road(1, 4), 0);
@@ -277,7 +241,7 @@ public final class PromiseTest {
     }
 
     private static void pilgrim() {
-        promise = "10";
+        sentence("10");
         due("pilgrim() of nothing", new CountedTrials().pilgrim(), STATE);
         CountedTrials x = readWith("10:051", 4);
         due("pilgrim(), the fifth", x.pilgrim(), FULL);
@@ -286,14 +250,8 @@ public final class PromiseTest {
         due("about(4, 0)", x.about(4, 0), UNKNOWN);
     }
 
-    private static void aboutIs(CountedTrials x, int pilgrim, int... told) {
-        for (int what = 0; what < told.length; what++) {
-            due("about(" + pilgrim + ", " + what + ")", x.about(pilgrim, what), told[what]);
-        }
-    }
-
     private static void about() {
-        promise = "11";
+        sentence("11");
         CountedTrials x = readWith("06:d013,122,g251", 2);
         due("walk(1, 0)", x.walk(1, 0), 1);
         due("walk(1, 1)", x.walk(1, 1), 2);
@@ -317,7 +275,7 @@ public final class PromiseTest {
     }
 
     private static void walk() {
-        promise = "12";
+        sentence("12");
         CountedTrials x = readWith("60:103,f011,b011,d011,g011,251", 2);
         due("walk(0, 0)", x.walk(0, 0), 1);
         due("walk(0, 0) back", x.walk(0, 0), 0);
@@ -389,7 +347,7 @@ public final class PromiseTest {
     }
 
     private static void together() {
-        promise = "13";
+        sentence("13");
         CountedTrials x = readWith("60:013,b122,d239,g341,f451", 3);
         due("together(1, 0, 0)", x.together(1, 0, 0), 1);
         aboutIs(x, 1, 1, 2, 2, 0, 1);
@@ -448,7 +406,7 @@ public final class PromiseTest {
     }
 
     private static void rest() {
-        promise = "14";
+        sentence("14");
         CountedTrials x = readWith("02:058,011", 1);
         due("rest(0)", x.rest(0), 0);
         due("count(4)", x.count(4), 1);
@@ -465,7 +423,7 @@ public final class PromiseTest {
     }
 
     private static void enter() {
-        promise = "15";
+        sentence("15");
         CountedTrials x = readWith("05:051,d052,b053", 2);
         due("enter(0), not at the goal", x.enter(0), STATE);
         x.walk(0, 0);
@@ -495,7 +453,7 @@ public final class PromiseTest {
     }
 
     private static void way() {
-        promise = "16";
+        sentence("16");
         wayIs(readWith("06:011,d122,g251,b013,f501", 1), 5, 5, 0);
         wayIs(readWith("02:f012,152,054", 1), 4, 1, 2);
         wayIs(readWith("02:054,053,053", 1), 3, 1, 1);
@@ -539,7 +497,7 @@ public final class PromiseTest {
     }
 
     private static void bars() {
-        promise = "17";
+        sentence("17");
         due("bars of the least", readWith("02:f011,151", 1).bars(0), 0);
         due("bars behind another", readWith("02:f011,f011,151", 1).bars(0), 2);
         due("bars of two ways", readWith("02:054,054", 1).bars(0), NONE);
@@ -557,7 +515,7 @@ public final class PromiseTest {
     }
 
     private static void most() {
-        promise = "18";
+        sentence("18");
         CountedTrials x = readWith("01:d012,d129,f011", 1);
         int[] harm = {0, 1, 2, 9, 10, 11, 60};
         int[] most = {0, 0, 4, 4, 4, 8, 8};
@@ -591,7 +549,7 @@ public final class PromiseTest {
     }
 
     private static void bridge() {
-        promise = "19";
+        sentence("19");
         due("bridge where there is no way", readWith("02:011", 1).bridge(0), 5);
         due("bridge behind a road", readWith("04:013", 1).bridge(0), 11);
         due("bridge no better", readWith("02:051", 1).bridge(0), NONE);
@@ -613,7 +571,7 @@ public final class PromiseTest {
     }
 
     private static void foresightLimit() {
-        promise = "16 to 19";
+        sentence("16 to 19");
         CountedTrials x = readWith("02:051", 1);
         for (int i = 0; i < 6; i++) {
             due("way(0, 0)", x.way(0, 0), 1);
@@ -631,14 +589,14 @@ public final class PromiseTest {
             due("most(0, 61), the 25th", x.most(0, 61), OUTSIDE);
             due("bridge(1), the 25th", x.bridge(1), UNKNOWN);
             due("count(8)", x.count(8), 24);
-            page(x, "02:051");
+            write(x, "02:051");
             x.roads();
             x.pilgrim();
         }
     }
 
     private static void log() {
-        promise = "20, 21";
+        sentence("20, 21");
         CountedTrials x = new CountedTrials();
         due("forget() of nothing", x.forget(), 0);
         due("log(6)", x.log(6), UNKNOWN);
@@ -653,13 +611,13 @@ public final class PromiseTest {
         due("forget()", x.forget(), 7);
         due("count(5)", x.count(5), 0);
         due("log(5)", x.log(5), 1);
-        page(x, "02:051");
+        write(x, "02:051");
         due("roads()", x.roads(), 1);
         due("forget() behind roads()", x.forget(), 0);
     }
 
     private static void walks() {
-        promise = "22";
+        sentence("22");
         due("walks() of nothing", new CountedTrials().walks(), STATE);
         CountedTrials x = read("10:051,f059,012,121");
         due("walks() of an empty log", x.walks(), 1);
@@ -681,7 +639,7 @@ public final class PromiseTest {
         CountedTrials z = read("10:121");
         z.log(NONE);
         due("walks() from where there is no road", z.walks(), 0);
-        page(z, "10:011,011");
+        write(z, "10:011,011");
         z.roads();
         due("walks() of other roads", z.walks(), 1);
         CountedTrials hurt = readWith("10:019", 1);
@@ -691,7 +649,7 @@ public final class PromiseTest {
     }
 
     private static void walksBy() {
-        promise = "23";
+        sentence("23");
         due("walksBy(0) of nothing", new CountedTrials().walksBy(0), STATE);
         due("walksBy(61) of nothing", new CountedTrials().walksBy(61), OUTSIDE);
         due("walksBy(-1) of nothing", new CountedTrials().walksBy(-1), OUTSIDE);
@@ -722,7 +680,7 @@ public final class PromiseTest {
     }
 
     private static void last() {
-        promise = "24";
+        sentence("24");
         due("last() of nothing", new CountedTrials().last(), STATE);
         CountedTrials x = read("10:f051,012,b125,g235");
         due("last() of an empty log", x.last(), NONE);
@@ -755,7 +713,7 @@ public final class PromiseTest {
     }
 
     private static void months() {
-        promise = "25";
+        sentence("25");
         CountedTrials none = new CountedTrials();
         due("months(1, 0, 0) of nothing", none.months(1, 0, 0), STATE);
         due("months(0, 0, 0) of nothing", none.months(0, 0, 0), OUTSIDE);
@@ -807,11 +765,11 @@ public final class PromiseTest {
     }
 
     private static void imageAndRestore() {
-        promise = "26, 27";
+        sentence("26, 27");
         CountedTrials x = new CountedTrials();
         due("image() of nothing", x.image(), STATE);
         due("restore() of nothing", x.restore(), STATE);
-        page(x, "02:051,g012");
+        write(x, "02:051,g012");
         x.roads();
         due("restore() of none", x.restore(), STATE);
         x.pilgrim();
@@ -851,7 +809,7 @@ public final class PromiseTest {
 
     private static void imageKeepsNoMore(CountedTrials x) {
         x.way(0, 0);
-        page(x, "02:");
+        write(x, "02:");
         due("image(), the latest", x.image(), 1);
         x.rest(0);
         x.image();
@@ -869,7 +827,7 @@ public final class PromiseTest {
     }
 
     private static void count() {
-        promise = "28";
+        sentence("28");
         CountedTrials x = readWith("02:051,g012,f121", 3);
         x.walk(0, 0);
         x.enter(0);
@@ -877,7 +835,7 @@ public final class PromiseTest {
         x.together(1, 2, 1);
         x.log(1);
         x.log(NONE);
-        page(x, "abcd");
+        write(x, "abcd");
         x.bars(1);
         int[] counts = {3, 2, 3, 1, 3, 2, 4, 1, 1};
         for (int what = 0; what < counts.length; what++) {
@@ -889,10 +847,10 @@ public final class PromiseTest {
     }
 
     private static void digest() {
-        promise = "29";
+        sentence("29");
         CountedTrials x = new CountedTrials();
         due("digest() of nothing", x.digest(), hashed(761, 0, 0, 0, 0, 0, 0, 0, 0, 0));
-        page(x, "7~");
+        write(x, "7~");
         due("digest() of a page", x.digest(), hashed(761, 55, 126, 0, 0, 0, 0, 0, 0, 2, 0, 0));
         blankPage(x, "03:g051,b012");
         x.roads();
@@ -902,7 +860,7 @@ public final class PromiseTest {
         x.licence(0, false);
         x.log(1);
         x.most(0, 3);
-        page(x, "A");
+        write(x, "A");
         long h = hashed(761, 4, 0, 5, 1, 0, 0, 2, 0, 1, 2, 1, 1);
         h = hashed(h, 0, 0, 0, 0, 0, 0, 0, 0, 0, 0, 0, 0, 0);
         h = hashed(h, 1, 2, 1, 0, 1, 0, 2, 0, 0, 0, 0, 0, 0);
@@ -919,12 +877,12 @@ public final class PromiseTest {
     }
 
     private static void refusalsChangeNothing() {
-        promise = "refusals";
+        sentence("refusals");
         CountedTrials x = readWith("02:051,g012,f121", 4);
         x.walk(0, 0);
         x.enter(0);
         x.walk(1, 1);
-        page(x, "02:05");
+        write(x, "02:05");
         long before = x.digest();
         IntSupplier[] refused = {
             () -> x.letter(0), x::roads, () -> x.road(3, 0), () -> x.as(0, 5), () -> x.worsen(0, 10),
