@@ -131,8 +131,8 @@ public final class ForesightEdgesTest extends Checks {
     }
 
     private static void wayOf99() {
-        sentence("A WAY: HURT 99 at most");
         for (int harm = 1; harm <= 9; harm++) {
+            sentence("A WAY: HURT 99 at most");
             CountedTrials x = readWith("02:05" + harm + ",f011", 1);
             hurt(x, 0, 1, 99 - harm);
             wayIs("by 99", x, harm, 1, 0);
@@ -405,9 +405,9 @@ public final class ForesightEdgesTest extends Checks {
     }
 
     private static void twentyFourTimes() {
-        sentence("16 to 19: STATE: way(), bars(), most(), bridge() were done 24 times together");
         int[] answers = {1, 0, 2, NONE};
         for (int start = 0; start < 4; start++) {
+            sentence("16 to 19: STATE: way(), bars(), most(), bridge() were done 24 times together");
             CountedTrials x = readWith("02:051", 1);
             for (int i = 0; i < 24; i++) {
                 int which = (start + i) % 4;
@@ -435,9 +435,9 @@ public final class ForesightEdgesTest extends Checks {
     }
 
     private static void timesOfEach() {
-        sentence("each of the four is counted, what it answers too, NONE as well");
         int[] answers = {NONE, NONE, 2, NONE};
         for (int which = 0; which < 4; which++) {
+            sentence("each of the four is counted, what it answers too, NONE as well");
             CountedTrials x = readWith("60:051", 2);
             for (int i = 0; i < 24; i++) {
                 due("call " + i, ask(x, which), answers[which]);

@@ -50,9 +50,9 @@ public final class LogEdgesTest extends Checks {
     }
 
     private static void sevenMonths() {
-        sentence("A LOG (7 at most); 20: FULL");
         CountedTrials x = read("01:011");
         for (int round = 0; round < 2; round++) {
+            sentence("A LOG (7 at most); 20: FULL");
             for (int month = 1; month <= 7; month++) {
                 due("log(-1)", x.log(NONE), month);
                 due("count(5)", x.count(5), month);

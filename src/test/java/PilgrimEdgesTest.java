@@ -251,9 +251,9 @@ public final class PilgrimEdgesTest extends Checks {
     }
 
     private static void byTwoHurt() {
-        sentence("WALKING by two: each is HURT by half the HARM (rounded up)");
         int[] half = {0, 1, 1, 2, 2, 3, 3, 4, 4, 5};
         for (int harm = 1; harm <= 9; harm++) {
+            sentence("WALKING by two: each is HURT by half the HARM (rounded up)");
             CountedTrials x = readWith("60:50" + harm, 3);
             due("together(2, 0, 0)", x.together(2, 0, 0), GOAL);
             aboutIs(x, 2, 5, half[harm], 2, 0, 1);

@@ -66,9 +66,9 @@ public final class RoadEdgesTest extends Checks {
     }
 
     private static void fullPage() {
-        sentence("2: how many THE PAGE has; FULL: above 44");
         CountedTrials x = new CountedTrials();
         for (int round = 0; round < 2; round++) {
+            sentence("2: how many THE PAGE has; FULL: above 44");
             for (int size = 1; size <= 44; size++) {
                 due("letter(49)", x.letter(49), size);
             }
@@ -350,9 +350,9 @@ public final class RoadEdgesTest extends Checks {
     }
 
     private static void casts() {
-        sentence("7: the number of the ROAD; NONE: it is none such; all are TRIALS; a DEMON is DOUBLE, too");
         String[] fits = {"0", "01", "02", "03", "034"};
         for (int kind = 0; kind <= 4; kind++) {
+            sentence("7: the number of the ROAD; NONE: it is none such; all are TRIALS; a DEMON is DOUBLE, too");
             String letter = kind == 0 ? "" : "" + LETTERS.charAt(kind - 1);
             CountedTrials x = read(SEVEN + "," + letter + "051");
             for (int asked = 0; asked <= 4; asked++) {

@@ -66,8 +66,8 @@ public final class WholeEdgesTest extends Checks {
     }
 
     private static void keepsPilgrims() {
-        sentence("An IMAGE keeps how many PILGRIMS there are (those that come since are gone by restore())");
         for (int before = 0; before <= 4; before++) {
+            sentence("An IMAGE keeps how many PILGRIMS there are (those that come since are gone by restore())");
             CountedTrials x = readWith("60:011", before);
             x.image();
             for (int i = before; i < 4; i++) {
