@@ -24,12 +24,18 @@ public final class LanguageTest {
         "int count(int)", "long digest()"
     };
     private static final String[] CONSTANTS = {"NONE", "UNKNOWN", "OUTSIDE", "STATE", "FULL"};
+    private static final List<Class<?>> CONSTANT_TYPES = List.of(int.class, long.class, boolean.class, char.class,
+        String.class, int[].class, long[].class, char[].class, byte[].class);
+    private static final int LONGEST_METHOD = 60;
     private static int wrong = 0;
 
     public static void main(String[] args) throws IOException {
         face();
         insideClasses();
-        words(codeOf(Files.readString(SOURCE)));
+        String code = codeOf(Files.readString(SOURCE));
+        words(code);
+        library(code);
+        methods(code);
         System.out.println(wrong == 0 ? "the language is kept" : wrong + " rules are broken");
         if (wrong != 0) {
             System.exit(1);
@@ -88,10 +94,15 @@ public final class LanguageTest {
         return m.getReturnType().getName() + " " + m.getName() + "(" + String.join(",", types) + ")";
     }
 
-    private static void insideClasses() {
+    private static List<Class<?>> allClasses() {
         List<Class<?>> all = new ArrayList<>(Arrays.asList(CountedTrials.class.getDeclaredClasses()));
-        check(all.size() < 12, "at most some twelve classes");
         all.add(CountedTrials.class);
+        return all;
+    }
+
+    private static void insideClasses() {
+        List<Class<?>> all = allClasses();
+        check(all.size() <= 12, "at most some twelve classes");
         List<String> face = new ArrayList<>();
         for (String method : FACE) {
             face.add(method.replaceAll(".* |\\(.*", ""));
@@ -107,6 +118,8 @@ public final class LanguageTest {
             for (Field f : c.getDeclaredFields()) {
                 boolean isStatic = Modifier.isStatic(f.getModifiers());
                 check(!isStatic || Modifier.isFinal(f.getModifiers()), f + " is final");
+                check(isStatic ? CONSTANT_TYPES.contains(f.getType()) : isOwnOrNumbers(f.getType()),
+                    f + " is of a type that rules 3 and 5 name");
                 own += isStatic ? 0 : 1;
             }
             check(own <= 20, c + " has at most some twenty fields");
@@ -114,6 +127,12 @@ public final class LanguageTest {
                 check(m.getParameterCount() <= 7, m + " has at most seven parameters");
             }
         }
+    }
+
+    /** A number, a row of numbers, one of the classes inside or a row of these. */
+    private static boolean isOwnOrNumbers(Class<?> type) {
+        Class<?> one = type.isArray() ? type.getComponentType() : type;
+        return one.isPrimitive() || one.getDeclaringClass() == CountedTrials.class;
     }
 
     private static void words(String code) {
@@ -130,6 +149,53 @@ public final class LanguageTest {
         for (int i = 0; i < code.length(); i++) {
             check(code.charAt(i) < 128, "plain signs alone");
         }
+    }
+
+    /** Of what is called by a name with a capital, only the classes inside and the functions of rule 4. */
+    private static void library(String code) {
+        List<String> inside = new ArrayList<>();
+        for (Class<?> c : CountedTrials.class.getDeclaredClasses()) {
+            inside.add(c.getSimpleName());
+        }
+        Matcher m = Pattern.compile("\\b([A-Z][a-z]\\w*)\\.(\\w+)").matcher(code);
+        while (m.find()) {
+            boolean listed = m.group().matches("(Math|Integer|Long)\\.(compare|max|min|abs|bitCount|floorDiv|floorMod)"
+                + "|System\\.arraycopy|Arrays\\.(copyOf|copyOfRange|fill)");
+            check(inside.contains(m.group(1)) || listed, m.group() + " is of the library's list");
+        }
+    }
+
+    /** Methods stay short, and only constructors (and first values of fields) make objects. */
+    private static void methods(String code) {
+        Matcher m = Pattern.compile("(?m)^ +((?:\\w+ )*(?:[\\w\\[\\]]+ )?(\\w+)\\([^()]*\\)) \\{$").matcher(code);
+        int found = 0;
+        while (m.find()) {
+            if (m.group(1).matches("(if|for|while|switch|else|do|return)\\b.*")) {
+                continue;
+            }
+            found++;
+            String body = code.substring(m.end(), endOfBlock(code, m.end()));
+            check(body.split("\n").length <= LONGEST_METHOD, m.group(1) + " is short");
+            boolean isConstructor = Character.isUpperCase(m.group(2).charAt(0));
+            check(isConstructor || !Pattern.compile("\\bnew\\b").matcher(body).find(), m.group(1) + " makes no object");
+        }
+        int declared = 0;
+        for (Class<?> c : allClasses()) {
+            declared += c.getDeclaredMethods().length;
+        }
+        check(found >= declared, "the source shows all " + declared + " methods, not " + found);
+    }
+
+    /** Where the block ends whose "{" stands ahead of this place. */
+    private static int endOfBlock(String code, int from) {
+        int depth = 1;
+        for (int i = from; i < code.length(); i++) {
+            depth += code.charAt(i) == '{' ? 1 : code.charAt(i) == '}' ? -1 : 0;
+            if (depth == 0) {
+                return i;
+            }
+        }
+        return code.length();
     }
 
     private static String codeOf(String source) {

@@ -25,6 +25,7 @@ public final class PilgrimEdgesTest extends Checks {
         justNeed();
         atTheGoalAlone();
         turnedBack();
+        farTooMany();
         letInDoesNothing();
         end();
     }
@@ -473,6 +474,47 @@ public final class PilgrimEdgesTest extends Checks {
         due("count(3)", y.count(3), 0);
         due("rest(0)", y.rest(0), 0);
         due("walk(0, 0)", y.walk(0, 0), 0);
+    }
+
+    /** So many of the roads 0 to 5 are walked by each harm from 1 to 9, with rests as they are needed. */
+    private static CountedTrials countedByEachHarm(String text, int roads) {
+        CountedTrials x = readWith(text, 1);
+        for (int harm = 1; harm <= 9; harm++) {
+            for (int road = 0; road < roads; road++) {
+                x.worsen(road, harm);
+                while (x.about(0, 1) + harm > 99) {
+                    x.rest(0);
+                }
+                walk(x, 0, road);
+            }
+        }
+        return x;
+    }
+
+    private static void farTooMany() {
+        sentence("15: below 0: he has too many, by as much as the number of a refusal too");
+        for (int tooMany = 101; tooMany <= 104; tooMany++) {
+            CountedTrials x = countedByEachHarm("0" + (108 - tooMany) + ":d051,d051,d051", 3);
+            due("about(0, 2)", x.about(0, 2), 108);
+            due("enter(0)", x.enter(0), -tooMany);
+            due("about(0, 3)", x.about(0, 3), 0);
+            x.rest(0);
+            due("walk(0, 0)", x.walk(0, 0), 0);
+        }
+        sentence("the most halves that one can have COUNTED of all: 8 DOUBLE ones by HARM 1 to 9");
+        CountedTrials x = countedByEachHarm("01:d051,d051,d051,d051,d051,d051,d051,d051", 8);
+        x.rest(0);
+        x.rest(0);
+        walk(x, 0, 0);
+        aboutIs(x, 0, 5, x.about(0, 1), 288, 0, 73);
+        knownIs(x, 0, 9, 9, 9, 9, 9, 9, 9, 9);
+        due("enter(0)", x.enter(0), 1 - 288);
+        due("way(0, 0)", x.way(0, 0), NONE);
+        due("bars(0)", x.bars(0), NONE);
+        due("most(0, 60)", x.most(0, 60), 288);
+        due("bridge(0)", x.bridge(0), NONE);
+        due("months(60, 1, 2)", x.months(60, 1, 2), 288);
+        due("months(60, 1, 0)", x.months(60, 1, 0), 0);
     }
 
     private static CountedTrials oneLetIn() {
